@@ -125,6 +125,12 @@ public final class SwitchesTest {
         Due.is("27: 500 each", house.came(0), 500);
         house.mirror();
         Due.is("27: forgotten", house.token(0), 0);
+        Comparatory fresh = new Comparatory();
+        for (int i = 0; i < 999; i++) {
+            fresh.token(0);
+        }
+        Due.is("27: the 1000th", fresh.token(1), 1);
+        Due.badState("27: no 1001st", () -> fresh.token(1));
     }
 
     private static void promise28() {
