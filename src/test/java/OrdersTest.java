@@ -101,23 +101,38 @@ public final class OrdersTest {
         }
     }
 
-    /** One house for all wires, there and back: what was found for one number suits no other. */
+    /** Every row by every kind of steps, on houses that were asked of other numbers of wires before. */
     private static void ofAllRows() {
         Comparatory house = new Comparatory();
-        for (int time = 0; time < 2; time++) {
-            for (int wires = 2; wires <= 6; wires++) {
-                house.network(wires);
-                for (int steps = 3; steps >= 0; steps--) {
-                    for (int[] row : Slow.rows(wires)) {
-                        int code = Slow.code(row);
-                        Due.is("36: far " + steps + " " + code, house.far(steps, code), Slow.fars(steps, wires).get(code));
-                        Slow slow = new Slow();
-                        slow.network(wires);
-                        Due.is("37: step " + steps + " " + code, house.step(steps, code), slow.step(steps, code));
+        int calls = 0;
+        for (int wires = 2; wires <= 6; wires++) {
+            for (int steps = 3; steps >= 0; steps--) {
+                for (int[] row : Slow.rows(wires)) {
+                    int code = Slow.code(row);
+                    if (calls == 0) {
+                        house = askedBefore();
+                        house.network(wires);
                     }
+                    calls = (calls + 1) % 200;
+                    Slow slow = new Slow();
+                    slow.network(wires);
+                    Due.is("36: far " + steps + " " + code, house.far(steps, code), Slow.fars(steps, wires).get(code));
+                    Due.is("37: step " + steps + " " + code, house.step(steps, code), slow.step(steps, code));
                 }
             }
+            calls = 0;
         }
+    }
+
+    private static Comparatory askedBefore() {
+        Comparatory house = new Comparatory();
+        for (int wires = 6; wires >= 2; wires--) {
+            house.network(wires);
+            for (int steps = 0; steps < 4; steps++) {
+                house.manyFar(steps, 2);
+            }
+        }
+        return house;
     }
 
     private static void refusals() {

@@ -53,7 +53,7 @@ public final class SortingTest {
         int codes = 0;
         for (int code = -1000; code < 20000; code++) {
             int asked = code;
-            String told = Due.told(() -> four.run(asked));
+            String told = Due.told(() -> Houses.of(4).run(asked));
             codes += told.equals(Integer.toString(code)) ? 1 : 0;
         }
         Due.is("16: 24 codes of 4 wires", codes, 24);

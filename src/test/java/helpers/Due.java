@@ -45,6 +45,11 @@ final class Due {
         refuses(call, IllegalStateException.class, order);
     }
 
+    /** For a call within its range: whatever it answers, it throws nothing. */
+    static void allowed(String call, Order order) {
+        is(call, outcome(order), "no exception");
+    }
+
     private static void refuses(String call, Class<?> due, Order order) {
         is(call, outcome(order), due.getName());
     }

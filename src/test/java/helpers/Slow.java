@@ -14,6 +14,16 @@ final class Slow {
     final List<Integer> tokens = new ArrayList<>();
     final List<int[]> answers = new ArrayList<>();
 
+    /** Pairs as with Houses.with(). */
+    static Slow with(int wires, String pairs) {
+        Slow slow = new Slow();
+        slow.network(wires);
+        for (int i = 0; i < pairs.length(); i += 2) {
+            slow.add(pairs.charAt(i) - '0', pairs.charAt(i + 1) - '0');
+        }
+        return slow;
+    }
+
     // ---- rows
 
     private static final Map<Integer, List<int[]>> ROWS = new HashMap<>();
