@@ -14,6 +14,8 @@ public final class FaultEdgesTest {
         testsFromNoneToFour();
         moreThanFourTests();
         testsOfFaultsThatCannotBeTold();
+        testsOfChangedNetworks();
+        testsOfThreeComparators();
         testsBySlow();
         bearsWithoutComparators();
         bearsByOneMore();
@@ -182,6 +184,42 @@ public final class FaultEdgesTest {
         Comparatory twice = Houses.with(2, "010101");
         Due.is("34: only two of nine can be told", twice.tests(), 1);
         Due.is("33: seven cannot", twice.hidden(-1L), 7);
+    }
+
+    /** What was found for a network is not what is due for the one that came of it. */
+    private static void testsOfChangedNetworks() {
+        Comparatory house = Houses.with(3, "011201");
+        Due.is("34: more than 4", house.tests(), -1);
+        house.take();
+        Due.is("34: behind take", house.tests(), 3);
+        house.take();
+        Due.is("34: behind take", house.tests(), 2);
+        house.add(0, 1);
+        Due.is("34: behind add", house.tests(), 1);
+        house.mirror();
+        Due.is("34: behind mirror", house.tests(), 1);
+        house.prune();
+        Due.is("34: behind prune", house.tests(), 2);
+        house.network(3);
+        Due.is("34: behind network", house.tests(), 0);
+        Due.is("33: behind network", house.hidden(0), 0);
+        house.make(0);
+        Due.is("34: behind make", house.tests(), -1);
+        Due.is("33: behind make", house.hidden(0), 9);
+    }
+
+    private static void testsOfThreeComparators() {
+        int[] pairs = {1, 2, 12, 10, 20, 21};
+        for (int number = 0; number < 216; number++) {
+            String three = two(pairs[number % 6]) + two(pairs[number / 6 % 6]) + two(pairs[number / 36]);
+            Due.is("34: " + three, Houses.with(3, three).tests(), Slow.with(3, three).tests());
+            String six = three + two(pairs[number * 5 % 6]) + three;
+            Due.is("34: " + six, Houses.with(3, six).tests(), Slow.with(3, six).tests());
+        }
+    }
+
+    private static String two(int pair) {
+        return "" + pair / 10 + pair % 10;
     }
 
     private static void testsBySlow() {

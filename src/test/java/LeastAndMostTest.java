@@ -5,8 +5,13 @@
 public final class LeastAndMostTest {
     private static final String FULL_TEXT = "0:1 2:3 4:5/5:0 4:1 3:2/0:2 1:3/4:0 2:5";
 
+    private interface Call {
+        long on(Comparatory house);
+    }
+
     public static void main(String[] args) {
         aNewHouse();
+        theFirstCall();
         for (int wires = 2; wires <= 6; wires++) {
             withoutComparators(wires);
             withoutComparatorsAsSwitches(wires);
@@ -39,7 +44,53 @@ public final class LeastAndMostTest {
         Due.is("1: questions needed", house.needed(), 1);
         Due.is("1: characters", house.wipe(), 0);
         Due.is("1: the one before", house.network(2), 0);
-        Alike.network(2, "");
+        for (String pairs : new String[] {"", "01", "10", "0110", "010101"}) {
+            Alike.newHouse(pairs);
+            Alike.network(2, pairs);
+        }
+    }
+
+    /** Each call as the first one of a new house. */
+    private static void theFirstCall() {
+        Call[] calls = {
+            h -> h.network(6), h -> h.add(1, 0), h -> h.make(2), h -> h.untangle(), h -> h.prune(), h -> h.told(0),
+            h -> h.told(5), h -> h.textAt(0), h -> h.type('0', 1), h -> h.wipe(), h -> h.fault(), h -> h.run(1),
+            h -> h.run(10), h -> h.outputs(), h -> bit(h.sorts()), h -> h.sorted(), h -> h.wrong(0), h -> h.wrong(1),
+            h -> h.finishes(0), h -> h.finishes(1), h -> bit(h.merges(1)), h -> bit(h.chooses(1)), h -> h.off(),
+            h -> h.routes(), h -> h.setting(10), h -> h.setting(1), h -> h.token(1), h -> h.came(1), h -> h.cameAnew(1),
+            h -> bit(h.isStep()), h -> h.hidden(-1L), h -> h.tests(), h -> bit(h.bears()), h -> h.far(0, 1),
+            h -> h.far(1, 10), h -> h.step(2, 1), h -> h.step(3, 10), h -> h.manyFar(0, 1), h -> h.manyFar(3, 0),
+            h -> bit(h.ask(1, 0)), h -> bit(h.ask(0, 1)), h -> h.left(), h -> h.needed()
+        };
+        int[] due = {
+            0, 0, 1, 0, 0, 2,
+            0, ' ', 1, 0, 0, 1,
+            10, 15, 0, 1, 1, -1,
+            -1, 1, 0, 0, 1,
+            1, 0, -1, 1, 0, 0,
+            1, 0, 0, 0, 1,
+            0, 10, -1, 1, 1,
+            0, 1, 2, 1
+        };
+        Due.is("calls and answers", calls.length, due.length);
+        for (int i = 0; i < due.length; i++) {
+            int number = i;
+            Due.is("1: the first call, number " + i, Due.told(() -> calls[number].on(new Comparatory())), "" + due[i]);
+        }
+        Due.badState("4: none to take", () -> new Comparatory().take());
+        Due.illegal("15: nothing to build", () -> new Comparatory().build());
+        Due.noSuch("10: no comparator", () -> new Comparatory().comparator(0, 0));
+        Due.noSuch("31: no comparator", () -> new Comparatory().bad(0, 0));
+        Due.noSuch("32: no comparator", () -> new Comparatory().tells(0, 0));
+        Comparatory mirrored = new Comparatory();
+        mirrored.mirror();
+        Due.is("6: nothing to mirror", State.of(mirrored), State.of(new Comparatory()));
+        Due.is("1: as one that is begun", State.of(new Comparatory()), State.of(Houses.of(2)));
+        Due.is("1: and later", State.later(new Comparatory()), State.later(Houses.of(2)));
+    }
+
+    private static long bit(boolean is) {
+        return is ? 1 : 0;
     }
 
     private static void withoutComparators(int wires) {
@@ -295,7 +346,7 @@ public final class LeastAndMostTest {
     }
 
     private static void forgottenTokensDoNotCount() {
-        Comparatory house = Houses.of(2);
+        Comparatory house = new Comparatory();
         for (int i = 0; i < 1000; i++) {
             house.token(1);
         }

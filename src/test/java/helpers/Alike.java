@@ -2,13 +2,15 @@ import java.util.List;
 
 /** Asks Comparatory and Slow the same of the same network: every call that asks of it. */
 final class Alike {
+    private final boolean isBegun;
     private final int wires;
     private final String pairs;
     private final String name;
     private Comparatory house;
     private final Slow slow;
 
-    private Alike(int wires, String pairs) {
+    private Alike(boolean isBegun, int wires, String pairs) {
+        this.isBegun = isBegun;
         this.wires = wires;
         this.pairs = pairs;
         this.name = pairs.length() / 2 + " comparators on " + wires + " wires (" + pairs + ")";
@@ -17,17 +19,31 @@ final class Alike {
 
     /** Pairs as with Houses.with(). */
     static void network(int wires, String pairs) {
-        Alike alike = new Alike(wires, pairs);
-        alike.drawn();
-        alike.proved();
-        alike.faulty();
-        alike.routed();
-        alike.counted();
-        alike.changed();
+        new Alike(true, wires, pairs).all();
+    }
+
+    /** On the 2 wires of a new house, without a call of network(). */
+    static void newHouse(String pairs) {
+        new Alike(false, 2, pairs).all();
+    }
+
+    private void all() {
+        drawn();
+        proved();
+        faulty();
+        routed();
+        counted();
+        changed();
     }
 
     private void anew() {
-        house = Houses.with(wires, pairs);
+        house = new Comparatory();
+        if (isBegun) {
+            house.network(wires);
+        }
+        for (int i = 0; i < pairs.length(); i += 2) {
+            house.add(pairs.charAt(i) - '0', pairs.charAt(i + 1) - '0');
+        }
     }
 
     private void same(String call, Due.Call got, Due.Call want) {
