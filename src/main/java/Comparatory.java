@@ -1146,7 +1146,7 @@ public final class Comparatory {
 
         private void reach(int row, int wires, int when) {
             int rank = Rows.rank(row, wires);
-            if (since[rank] == 0) {
+            if (since[rank] == 0 && count < rows.length) {
                 since[rank] = (byte) when;
                 rows[count] = row;
                 count++;
@@ -1275,7 +1275,7 @@ public final class Comparatory {
                 for (int i = 0; i < count; i++) {
                     int next = Rows.rearranged(queue[at], list[i], wires);
                     int place = placeOf(steps, next, wires);
-                    if (known[place] == 0) {
+                    if (known[place] == 0 && found < queue.length) {
                         known[place] = (byte) (far + 1);
                         queue[found] = next;
                         found++;

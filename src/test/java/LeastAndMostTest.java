@@ -28,6 +28,7 @@ public final class LeastAndMostTest {
         faultsOfTheTapeOf40();
         noToken();
         aThousandTokens();
+        theRefusedTokenChangesNothing();
         forgottenTokensDoNotCount();
         Due.end();
     }
@@ -343,6 +344,33 @@ public final class LeastAndMostTest {
         Due.noSuch("27: below, and 1000 came", () -> house.token(-1));
         Due.is("28: still as many", house.came(0), onTheFirst);
         Due.is("28: still all of them", house.came(0) + house.came(1) + house.came(2), 1000);
+    }
+
+    private static Comparatory withAThousand() {
+        Comparatory house = Houses.with(4, "012313");
+        Houses.typeAnew(house, "3:0 1:2");
+        house.ask(3, 1);
+        for (int i = 0; i < 1000; i++) {
+            house.token(i * i % 4);
+        }
+        return house;
+    }
+
+    /** What no token can tell any more comes to light when the tokens are forgotten. */
+    private static void theRefusedTokenChangesNothing() {
+        for (int wire = 0; wire < 4; wire++) {
+            int asked = wire;
+            Comparatory one = withAThousand();
+            Comparatory twin = withAThousand();
+            Due.badState("27: 1000 came, on " + wire, () -> one.token(asked));
+            Due.is("27: as before", State.of(one), State.of(twin));
+            one.mirror();
+            twin.mirror();
+            Due.is("27: later", State.later(one), State.later(twin));
+            Comparatory other = withAThousand();
+            Due.badState("27: 1000 came, on " + wire, () -> other.token(asked));
+            Due.is("27: the tape", State.tapeOf(other), State.tapeOf(withAThousand()));
+        }
     }
 
     private static void forgottenTokensDoNotCount() {
