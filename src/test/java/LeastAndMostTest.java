@@ -347,7 +347,7 @@ public final class LeastAndMostTest {
     }
 
     private static Comparatory withAThousand() {
-        Comparatory house = Houses.with(4, "012313");
+        Comparatory house = Houses.with(4, "013213");
         Houses.typeAnew(house, "3:0 1:2");
         house.ask(3, 1);
         for (int i = 0; i < 1000; i++) {
